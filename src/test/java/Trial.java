@@ -1,0 +1,98 @@
+/** One object under test with short words for common calls; counts the answers that are not due. */
+final class Trial {
+    private static int wrong = 0;
+
+    final PagedValues x = new PagedValues();
+    private final String name;
+
+    Trial(String name) {
+        this.name = name;
+    }
+
+    void due(String call, long got, long want) {
+        if (got != want) {
+            wrong++;
+            System.out.println(name + ": " + call + " answered " + got + ", due is " + want);
+        }
+    }
+
+    void due(String call, boolean got, boolean want) {
+        due(call, got ? 1 : 0, want ? 1 : 0);
+    }
+
+    void due(String call, String got, String want) {
+        if (!got.equals(want)) {
+            wrong++;
+            System.out.println(name + ": " + call + " gave " + got + ", due is " + want);
+        }
+    }
+
+    Trial type(String text) {
+        for (int n = 0; n < text.length(); n++) {
+            due("type(" + (int) text.charAt(n) + ")", x.type(text.charAt(n)), x.size(0));
+        }
+        return this;
+    }
+
+    void put(String text, int id, int want) {
+        type(text);
+        due("put(" + id + ") of " + text, x.put(id), want);
+    }
+
+    void patch(String text, int id, int want) {
+        type(text);
+        due("patch(" + id + ") of " + text, x.patch(id), want);
+    }
+
+    void query(String text, int r, int id, int want) {
+        type(text);
+        due("query(" + r + ", " + id + ") of " + text, x.query(r, id), want);
+    }
+
+    /** The document as print() and output() tell it. */
+    void prints(int r, int id, String want) {
+        due("print(" + r + ", " + id + ")", x.print(r, id), want.length());
+        due("output after print(" + r + ", " + id + ")", written(), want);
+    }
+
+    /** The results as result(), show() and output() tell them: each an id, a colon and the value. */
+    void results(String... want) {
+        for (int i = 0; i < want.length; i++) {
+            int id = x.result(i);
+            due("show(" + i + ")", x.show(i), want[i].length() - 2);
+            due("result " + i, id + ":" + written(), want[i]);
+        }
+        due("result behind the last", x.result(want.length), PagedValues.BAD);
+        due("show behind the last", x.show(want.length), PagedValues.BAD);
+    }
+
+    String written() {
+        StringBuilder all = new StringBuilder();
+        for (int p = 0; x.output(p) != PagedValues.BAD; p++) {
+            all.append((char) x.output(p));
+        }
+        return all.toString();
+    }
+
+    /** The use of every page: a character 0, 1 or 2 for each. */
+    void pages(String want) {
+        StringBuilder all = new StringBuilder();
+        for (int n = 0; n < 12; n++) {
+            all.append(x.page(n));
+        }
+        due("pages", all.toString(), want);
+    }
+
+    void sizes(int... want) {
+        for (int what = 0; what < want.length; what++) {
+            due("size(" + what + ")", x.size(what), want[what]);
+        }
+    }
+
+    static void end() {
+        System.out.println(wrong == 0 ? "all answers are as due" : wrong + " answers are not as due");
+        if (wrong != 0) {
+            System.exit(1);
+        }
+    }
+}
