@@ -28,8 +28,9 @@ final class Trial {
     }
 
     Trial type(String text) {
+        int before = x.size(0);
         for (int n = 0; n < text.length(); n++) {
-            due("type(" + (int) text.charAt(n) + ")", x.type(text.charAt(n)), x.size(0));
+            due("type(" + (int) text.charAt(n) + ")", x.type(text.charAt(n)), before + n + 1);
         }
         return this;
     }
@@ -68,8 +69,10 @@ final class Trial {
 
     String written() {
         StringBuilder all = new StringBuilder();
-        for (int p = 0; x.output(p) != PagedValues.BAD; p++) {
-            all.append((char) x.output(p));
+        int c = x.output(0);
+        for (int p = 1; c != PagedValues.BAD; p++) {
+            all.append((char) c);
+            c = x.output(p);
         }
         return all.toString();
     }

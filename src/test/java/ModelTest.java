@@ -1,0 +1,262 @@
+import java.util.Random;
+
+/** Random runs of calls, each answer compared with the model's; the same runs every time. */
+public final class ModelTest {
+    private static final int RUNS = 4000;
+    private static final int CALLS = 512;
+    private static final String[] NAMES = {"a", "b", "", "~", "/", "0", "1", "-", "\\\"", "abcdefghij"};
+    private static final String[] TOKENS = {"a", "b", "", "~0", "~1", "0", "1", "2", "-", "01", "~", "\\\""};
+
+    private final Random random;
+    private final Trial t;
+    private final PagedValues x;
+    private final Model m = new Model();
+    private int calls = 0;
+
+    private ModelTest(int seed) {
+        random = new Random(seed);
+        t = new Trial("run of seed " + seed);
+        x = t.x;
+    }
+
+    public static void main(String[] args) {
+        for (int seed = 0; seed < RUNS; seed++) {
+            new ModelTest(seed).run();
+        }
+        Trial.end();
+    }
+
+    private void run() {
+        while (calls < CALLS - 90) {
+            int kind = random.nextInt(100);
+            if (kind < 22) {
+                type(mangled(blanks(value(random.nextInt(5), new int[] {1 + random.nextInt(27)}))));
+                put();
+            } else if (kind < 45) {
+                type(mangled(operations()));
+                patch();
+            } else if (kind < 68) {
+                type(mangled(query()));
+                ask();
+            } else {
+                other(kind);
+            }
+            look();
+        }
+    }
+
+    private void other(int kind) {
+        int n = number();
+        if (kind < 76) {
+            same("remove(" + n + ")", x.remove(n), m.remove(n));
+        } else if (kind < 82) {
+            same("open()", x.open(), m.open());
+        } else if (kind < 86) {
+            same("close(" + n + ")", x.close(n) ? 1 : 0, m.close(n) ? 1 : 0);
+        } else if (kind < 88) {
+            int k = random.nextInt(23) - 1;
+            same("fuse(" + k + ")", x.fuse(k) ? 1 : 0, m.fuse(k) ? 1 : 0);
+        } else if (kind < 94) {
+            same("restart()", x.restart() ? 1 : 0, m.restart() ? 1 : 0);
+        } else {
+            type("7");
+            put();
+        }
+    }
+
+    /** A few of the calls that only look, so that most of the calls still change something. */
+    private void look() {
+        int n = number();
+        int r = random.nextInt(3) == 0 ? number() : random.nextInt(4) - 1;
+        switch (random.nextInt(5)) {
+            case 0:
+                same("print(" + r + ", " + n + ")", x.print(r, n), m.print(r, n));
+                break;
+            case 1:
+                same("show(" + n + ")", x.show(n), m.show(n));
+                break;
+            case 2:
+                same("result(" + n + ")", x.result(n), m.result(n));
+                break;
+            default:
+                break;
+        }
+        int p = random.nextInt(30) - 1;
+        same("output(" + p + ")", x.output(p), m.output(p));
+        int page = random.nextInt(14) - 1;
+        same("page(" + page + ")", x.page(page), m.page(page));
+        int what = random.nextInt(9) - 1;
+        same("size(" + what + ")", x.size(what), m.size(what));
+    }
+
+    private void same(String call, int got, int want) {
+        calls++;
+        t.due("call " + calls + ", " + call, got, want);
+    }
+
+    private void type(String text) {
+        for (int n = 0; n < text.length() && n < 82; n++) {
+            same("type(" + (int) text.charAt(n) + ")", x.type(text.charAt(n)), m.type(text.charAt(n)));
+        }
+    }
+
+    private void put() {
+        int id = random.nextInt(10) == 0 ? number() : random.nextInt(8);
+        same("put(" + id + ")", x.put(id), m.put(id));
+    }
+
+    private void patch() {
+        for (int n = random.nextInt(8), tries = 0; tries < 8; n = (n + 1) % 8, tries++) {
+            same("patch(" + n + ")", x.patch(n), m.patch(n));
+            if (m.size(0) == 0) {
+                return;
+            }
+        }
+    }
+
+    private void ask() {
+        int r = random.nextInt(3) == 0 ? number() : -1;
+        int id = random.nextInt(2) == 0 ? -1 : number();
+        same("query(" + r + ", " + id + ")", x.query(r, id), m.query(r, id));
+    }
+
+    private int number() {
+        return random.nextInt(40) == 0 ? random.nextInt() : random.nextInt(11) - 2;
+    }
+
+    private String pick(String[] all) {
+        return all[random.nextInt(all.length)];
+    }
+
+    /** Blanks before and behind signs; in strings they do no harm. */
+    private String blanks(String text) {
+        if (random.nextInt(3) != 0) {
+            return text;
+        }
+        StringBuilder all = new StringBuilder();
+        for (char c : text.toCharArray()) {
+            boolean room = "[]{},:".indexOf(c) >= 0 && random.nextInt(3) == 0;
+            all.append(room ? " \t\n\r".charAt(random.nextInt(4)) : "").append(c).append(room ? " " : "");
+        }
+        return all.toString();
+    }
+
+    /** Often as it is; else with a character changed, put in or left out, or with its end cut off. */
+    private String mangled(String text) {
+        if (random.nextInt(5) != 0 || text.isEmpty()) {
+            return text;
+        }
+        int n = random.nextInt(text.length());
+        String odd = "[]{},:\"\\'0179-ntfx.*$ ~/\t\u00ff\u0100\u0000";
+        char c = odd.charAt(random.nextInt(odd.length()));
+        switch (random.nextInt(4)) {
+            case 0:
+                return text.substring(0, n) + c + text.substring(n);
+            case 1:
+                return text.substring(0, n) + c + text.substring(n + 1);
+            case 2:
+                return text.substring(0, n) + text.substring(n + 1);
+            default:
+                return text.substring(0, n);
+        }
+    }
+
+    private String value(int depth, int[] left) {
+        left[0]--;
+        if (depth > 0 && random.nextInt(4) != 0) {
+            return parts(depth, left, random.nextBoolean());
+        }
+        switch (random.nextInt(8)) {
+            case 0:
+                return "null";
+            case 1:
+                return random.nextBoolean() ? "true" : "false";
+            case 2:
+                return "" + (random.nextInt(2400000) - 1200000);
+            case 3:
+                return "\"" + pick(NAMES) + "\"";
+            case 4:
+                return "\"" + "abcdefgh\\\\ij\u00ff".substring(random.nextInt(4)) + "\"";
+            default:
+                return "" + (random.nextInt(14) - 2);
+        }
+    }
+
+    private String parts(int depth, int[] left, boolean object) {
+        StringBuilder all = new StringBuilder();
+        int offset = random.nextInt(NAMES.length);
+        int most = random.nextInt(object ? 5 : 9);
+        for (int n = 0; n < most && left[0] > 0; n++) {
+            all.append(n == 0 ? "" : ",");
+            if (object) {
+                String name = random.nextInt(20) == 0 ? pick(NAMES) : NAMES[(offset + n) % NAMES.length];
+                all.append('"').append(name).append("\":");
+            }
+            all.append(value(depth - 1, left));
+        }
+        return object ? "{" + all + "}" : "[" + all + "]";
+    }
+
+    private String operations() {
+        StringBuilder all = new StringBuilder("[");
+        int most = random.nextInt(12) == 0 ? 0 : 1 + random.nextInt(2);
+        for (int n = 0; n < most; n++) {
+            all.append(n == 0 ? "" : ",").append(operation());
+        }
+        return all.append(']').toString();
+    }
+
+    private String operation() {
+        String path = path();
+        String value = value(random.nextInt(3), new int[] {4});
+        switch (random.nextInt(7)) {
+            case 0:
+                return "{\"op\":\"remove\",\"path\":\"" + path + "\"}";
+            case 1:
+                return "{\"op\":\"replace\",\"path\":\"" + path + "\",\"value\":" + value + "}";
+            case 2:
+                return "{\"op\":\"copy\",\"from\":\"" + path + "\",\"path\":\"" + path() + "\"}";
+            case 3:
+                String[] from = {"", "/0", "/a"};
+                return "{\"op\":\"copy\",\"from\":\"" + pick(from) + "\",\"path\":\"" + path + "\"}";
+            case 4:
+                String[] odd = {"{\"op\":\"add\",\"path\":\"\"}", "{\"op\":\"copy\",\"path\":\"\",\"from\":1}", "1", "{}",
+                    "{\"op\":\"remove\",\"path\":0}", "{\"op\":\"rem\",\"path\":\"\"}", "{\"path\":\"/0\",\"op\":\"remove\",\"from\":1}"};
+                return pick(odd);
+            default:
+                return "{\"op\":\"add\",\"path\":\"" + path + "\",\"value\":" + value + "}";
+        }
+    }
+
+    private String path() {
+        StringBuilder all = new StringBuilder(random.nextInt(40) == 0 ? "a" : "");
+        int most = random.nextInt(8) == 0 ? 0 : 1 + random.nextInt(3);
+        for (int n = 0; n < most; n++) {
+            all.append('/').append(pick(TOKENS));
+        }
+        return all.toString();
+    }
+
+    private String query() {
+        StringBuilder all = new StringBuilder("$");
+        int most = random.nextInt(random.nextInt(10) == 0 ? 10 : 4);
+        for (int n = 0; n < most; n++) {
+            int form = random.nextInt(6);
+            if (form < 2) {
+                all.append(form == 0 ? "." : "..").append(pick(new String[] {"a", "b", "abcdefghij", "*", "_9"}));
+            } else {
+                all.append(form < 4 ? "[" : "..[").append(selector());
+                for (int more = random.nextInt(random.nextInt(8) == 0 ? 9 : 3); more > 0; more--) {
+                    all.append(',').append(selector());
+                }
+                all.append(']');
+            }
+        }
+        return all.toString();
+    }
+
+    private String selector() {
+        String[] all = {"*", "*", "0", "1", "-1", "-2", "2", "'a'", "'b'", "''", "'\"'", "'~'", "'abcdefghij'", "123", "-999", "1000"};
+        return pick(all);
+    }
+}
