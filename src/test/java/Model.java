@@ -221,6 +221,11 @@ final class Model {
         return what < 0 || what > 6 ? BAD : all[what];
     }
 
+    /** Document id of the current meta, for tests that want to fit to it; null if there is none. */
+    Object document(int id) {
+        return documents(currentRoot()).get(id);
+    }
+
     private String takeText() {
         String taken = text.toString();
         text.setLength(0);
