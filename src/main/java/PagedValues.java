@@ -460,15 +460,17 @@ public final class PagedValues {
         }
 
         void fail() {
-            failAt(place);
+            if (fault == NONE) {
+                fault = place;
+            }
         }
 
         int ahead() {
-            return place >= 0 && place < length ? typed[place] : END;
+            return place < length ? typed[place] : END;
         }
 
         boolean take(char c) {
-            if (ahead() != c) {
+            if (place >= length || typed[place] != c) {
                 return false;
             }
             place++;
@@ -516,11 +518,11 @@ public final class PagedValues {
             return word.toString();
         }
 
-        /** Null if it is at fault. */
+        /** What is answered for a string at fault is of no use. */
         String quoted(char quote, boolean escapes) {
             word.setLength(0);
             if (!need(quote)) {
-                return null;
+                return "";
             }
             for (int n = 0; n <= LONGEST_STRING; n++) {
                 if (take(quote)) {
@@ -531,7 +533,7 @@ public final class PagedValues {
                 }
             }
             fail();
-            return null;
+            return "";
         }
 
         private boolean takeCharacter(char quote, boolean escapes) {
@@ -651,7 +653,7 @@ public final class PagedValues {
             text.skipBlanks();
             int start = text.place;
             String name = text.quoted('"', true);
-            if (name == null) {
+            if (!text.isRight()) {
                 return null;
             }
             if (object.member(name) != null) {
@@ -671,7 +673,7 @@ public final class PagedValues {
 
         private Value string(Text text) {
             String characters = text.quoted('"', true);
-            return characters == null ? null : new Value(Kind.STRING, 0, characters);
+            return text.isRight() ? new Value(Kind.STRING, 0, characters) : null;
         }
 
         private Value word(Text text, String letters, Kind kind) {
@@ -718,7 +720,7 @@ public final class PagedValues {
         }
 
         /** The slash before the last token of a path that is not empty. */
-        private static int lastSlash(String path) {
+        static int lastSlash(String path) {
             int slash = 0;
             for (int n = 0; n < path.length(); n++) {
                 if (path.charAt(n) == '/') {
@@ -728,37 +730,21 @@ public final class PagedValues {
             return slash;
         }
 
-        String lastToken(String path) {
-            return token(path, lastSlash(path) + 1, path.length());
-        }
-
-        /** Null if the path without its last token leads nowhere. */
-        Value parent(Value document, String path) {
-            return lead(document, path, lastSlash(path));
-        }
-
-        /** Null if the path leads nowhere. */
-        Value target(Value document, String path) {
-            return lead(document, path, path.length());
-        }
-
-        private Value lead(Value document, String path, int end) {
+        /** Where the path up to the end leads from the document; null if nowhere. */
+        Value lead(Value document, String path, int end) {
             Value at = document;
             int start = 1;
             for (int n = 1; n <= end && at != null; n++) {
                 if (n == end || path.charAt(n) == '/') {
-                    at = step(at, token(path, start, n));
+                    String token = token(path, start, n);
+                    at = at.kind == Kind.OBJECT ? at.member(token) : at.element(index(token));
                     start = n + 1;
                 }
             }
             return at;
         }
 
-        private static Value step(Value from, String token) {
-            return from.kind == Kind.OBJECT ? from.member(token) : from.element(index(token));
-        }
-
-        private String token(String path, int start, int end) {
+        String token(String path, int start, int end) {
             word.setLength(0);
             boolean escaped = false;
             for (int n = start; n < end; n++) {
@@ -863,15 +849,16 @@ public final class PagedValues {
             if (op.equals("remove")) {
                 return !path.isEmpty() && exchange(path, null);
             }
-            if (op.equals("copy")) {
-                return duplicate(stringOf(operation, "from"), path);
-            }
-            Value value = operation.member("value");
-            if (value == null) {
+            Value source = op.equals("copy") ? copySource(stringOf(operation, "from")) : operation.member("value");
+            if (source == null) {
                 return false;
             }
-            Value copy = Value.copyOf(value, 0);
-            return op.equals("add") ? add(path, copy) : exchange(path, copy);
+            Value value = Value.copyOf(source, 0);
+            return op.equals("replace") ? exchange(path, value) : add(path, value);
+        }
+
+        private Value copySource(String from) {
+            return Pointer.isPointer(from) ? pointer.lead(document, from, from.length()) : null;
         }
 
         private boolean add(String path, Value value) {
@@ -879,11 +866,12 @@ public final class PagedValues {
                 document = value;
                 return true;
             }
-            Value parent = pointer.parent(document, path);
+            int slash = Pointer.lastSlash(path);
+            Value parent = pointer.lead(document, path, slash);
             if (parent == null) {
                 return false;
             }
-            String token = pointer.lastToken(path);
+            String token = pointer.token(path, slash + 1, path.length());
             if (parent.kind == Kind.OBJECT) {
                 addMember(parent, token, value);
                 return true;
@@ -917,8 +905,8 @@ public final class PagedValues {
                 document = value;
                 return true;
             }
-            Value parent = pointer.parent(document, path);
-            Value old = pointer.target(document, path);
+            Value parent = pointer.lead(document, path, Pointer.lastSlash(path));
+            Value old = pointer.lead(document, path, path.length());
             if (parent == null || old == null) {
                 return false;
             }
@@ -928,14 +916,6 @@ public final class PagedValues {
                 parent.swap(old, value);
             }
             return true;
-        }
-
-        private boolean duplicate(String from, String path) {
-            if (!Pointer.isPointer(from)) {
-                return false;
-            }
-            Value source = pointer.target(document, from);
-            return source != null && add(path, Value.copyOf(source, 0));
         }
     }
 
@@ -1084,11 +1064,10 @@ public final class PagedValues {
             }
             row[0] = document;
             rowCount = 1;
-            int start = 0;
-            while (start < query.count && !tooMany) {
-                int end = query.segmentEnd(start);
-                walk(query, start, end);
-                start = end;
+            for (int n = 0; n < query.count && !tooMany; n++) {
+                if (query.selectors[n].opens) {
+                    walk(query, n, query.segmentEnd(n));
+                }
             }
             for (int n = 0; n < rowCount && !tooMany; n++) {
                 keep(row[n], id);

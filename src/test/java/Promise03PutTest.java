@@ -175,7 +175,7 @@ public final class Promise03PutTest {
         t.sizes(0, 1, 0, 6, 0, 2, 0);
 
         Trial full = new Trial("full");
-        fill(full);
+        full.fill("4", 1);
         full.put("[7", 0, -102);
         full.put("7", 0, PagedValues.FULL);
         full.sizes(0, 3, 3, 18, 0, 6, 0);
@@ -194,18 +194,5 @@ public final class Promise03PutTest {
         down.sizes(0, 1, 0, 3, 1, 1, 1);
         down.x.restart();
         down.prints(-1, 3, "[1]");
-    }
-
-    /** Six documents written while three readers look: one page is left. */
-    private static void fill(Trial t) {
-        t.put("1", 0, 1);
-        t.put("2", 4, 1);
-        t.x.open();
-        t.put("3", 0, 1);
-        t.x.open();
-        t.put("4", 0, 1);
-        t.x.open();
-        t.put("5", 5, 1);
-        t.put("6", 5, 1);
     }
 }

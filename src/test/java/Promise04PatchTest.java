@@ -219,16 +219,7 @@ public final class Promise04PatchTest {
         t.sizes(0, 1, 0, 6, 0, 2, 0);
 
         Trial full = new Trial("full");
-        full.put("[[[[]]]]", 0, 4);
-        full.put("2", 4, 1);
-        full.x.open();
-        full.put("[[[[]]]]", 0, 4);
-        full.x.open();
-        full.put("[[[[]]]]", 0, 4);
-        full.x.open();
-        full.put("5", 5, 1);
-        full.patch("[]", 5, 1);
-        full.pages("222121121210");
+        full.fill("[[[[]]]]", 4);
         full.patch("[1]", 0, PagedValues.MALFORMED);
         full.patch("[" + remove("/1") + "]", 0, -10);
         full.patch("[" + add("/0/0/0/0", "[]") + "]", 0, PagedValues.TOO_BIG);

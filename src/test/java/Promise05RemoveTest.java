@@ -53,15 +53,7 @@ public final class Promise05RemoveTest {
 
     private static void full() {
         Trial t = new Trial("full");
-        t.put("1", 0, 1);
-        t.put("2", 4, 1);
-        t.x.open();
-        t.put("3", 0, 1);
-        t.x.open();
-        t.put("4", 0, 1);
-        t.x.open();
-        t.put("5", 5, 1);
-        t.put("6", 5, 1);
+        t.fill("1", 1);
         t.type("x");
         t.due("remove(5)", t.x.remove(5), PagedValues.FULL);
         t.due("remove(6)", t.x.remove(6), PagedValues.BAD);

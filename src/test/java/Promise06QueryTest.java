@@ -6,6 +6,8 @@ public final class Promise06QueryTest {
         selects();
         goesDeep();
         faults();
+        faultsInNames();
+        oneAfterTheOther();
         selectorsAtMostEight();
         documents();
         tooMany();
@@ -64,6 +66,9 @@ public final class Promise06QueryTest {
         finds("{\"abcdefghij\":1}", "$['abcdefghij']", "1");
         finds("{\"\\\"]\u00ff\":1}", "$['\"]\u00ff']", "1");
         finds("{\"a\":1,\"A\":2}", "$.A", "2");
+        finds("{\"azAZ_09\":1,\"z\":2,\"Z\":3}", "$.azAZ_09", "1");
+        finds("{\"azAZ_09\":1,\"z\":2,\"Z\":3}", "$.z", "2");
+        finds("{\"azAZ_09\":1,\"z\":2,\"Z\":3}", "$.Z", "3");
     }
 
     private static void goesDeep() {
@@ -140,6 +145,33 @@ public final class Promise06QueryTest {
         fault("$['abcdefghijk']", 13);
         fault("$['abcdefghij", 13);
         fault("$[**]", 3);
+    }
+
+    /** The characters next to the letters and digits are none. */
+    private static void faultsInNames() {
+        for (char c : "@[`{^/:".toCharArray()) {
+            fault("$." + c, 2);
+        }
+        for (char c : "@`{^/:".toCharArray()) {
+            fault("$.a" + c, 3);
+        }
+    }
+
+    /** Nothing of a query is left over for the next one. */
+    private static void oneAfterTheOther() {
+        Trial t = new Trial("one query after the other");
+        t.put("{\"a\":[5,6],\"b\":{\"a\":7}}", 0, 6);
+        t.query("$.a[1,0]", -1, 0, 2);
+        t.results("0:6", "0:5");
+        t.query("$['b']['a',0]", -1, 0, 1);
+        t.results("0:7");
+        t.query("$..*", -1, 0, 5);
+        t.query("$.*", -1, 0, 2);
+        t.query("$..a[0]", -1, 0, 1);
+        t.results("0:5");
+        t.query("$['a','b'].a", -1, 0, 1);
+        t.results("0:7");
+        t.query("$", -1, 0, 1);
     }
 
     private static void selectorsAtMostEight() {

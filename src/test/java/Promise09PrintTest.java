@@ -24,7 +24,7 @@ public final class Promise09PrintTest {
         t.due("size(0)", t.x.size(0), 1);
     }
 
-    /** 23 members whose names and strings are ten escaped characters, written in many patches. */
+    /** Copies of a string of ten escaped characters make a document longer than any text. */
     private static void longest() {
         Trial t = new Trial("longest output");
         t.put("{\"A\":\"\\\"\\\"\\\"\\\"\\\"\\\"\\\"\\\"\\\"\\\"\"}", 0, 2);

@@ -34,19 +34,10 @@ public final class Promise15PageTest {
         Trial.end();
     }
 
-    /** Each reader holds a root and two leaves of its own as far as that goes; then the last page is used. */
+    /** One page is free, and one is needed. */
     private static void lastPage() {
         Trial t = new Trial("last page");
-        t.put("1", 0, 1);
-        t.put("2", 4, 1);
-        t.x.open();
-        t.put("3", 0, 1);
-        t.x.open();
-        t.put("4", 0, 1);
-        t.x.open();
-        t.put("5", 5, 1);
-        t.put("6", 5, 1);
-        t.pages("222121121210");
+        t.fill("1", 1);
         t.due("remove(0)", t.x.remove(0), 2);
         t.pages("222121100211");
     }

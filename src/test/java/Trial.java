@@ -50,6 +50,21 @@ final class Trial {
         due("query(" + r + ", " + id + ") of " + text, x.query(r, id), want);
     }
 
+    /** Six writes of this text as documents 0, 4 and 5 while three readers look, which leave one page free. */
+    void fill(String text, int size) {
+        put(text, 0, size);
+        put(text, 4, size);
+        x.open();
+        put(text, 0, size);
+        x.open();
+        put(text, 0, size);
+        x.open();
+        put(text, 5, size);
+        put(text, 5, size);
+        pages("222121121210");
+        sizes(0, 3, 3, 18, 0, 6, 0);
+    }
+
     /** The document as print() and output() tell it. */
     void prints(int r, int id, String want) {
         due("print(" + r + ", " + id + ")", x.print(r, id), want.length());
