@@ -6,12 +6,13 @@ import java.util.Random;
 public final class ModelTest {
     private static final int RUNS = 6000;
     private static final int CALLS = 512;
+    private static final int DEAREST_STEP = 110;
     private static final String[] NAMES = {"a", "b", "", "~", "/", "0", "1", "-", "\\\"", "abcdefghij"};
     private static final String[] TOKENS = {"a", "b", "", "~0", "~1", "0", "1", "2", "-", "01", "~", "\\\""};
 
     private final Random random;
     private final Trial t;
-    private final PagedValues x;
+    private final Counted x;
     private final Model m = new Model();
     private int calls = 0;
 
@@ -30,7 +31,7 @@ public final class ModelTest {
 
     /** Every other run is about the store alone, with short texts, so that pages become scarce. */
     private void run(boolean storeAlone) {
-        while (calls < CALLS - 100) {
+        while (calls < CALLS - DEAREST_STEP) {
             int kind = random.nextInt(100);
             if (m.size(0) > 0 && random.nextInt(4) != 0) {
                 put();

@@ -1,5 +1,5 @@
 /** Promise 3: a text becomes a document, or is at fault at the right place. */
-public final class Promise03PutTest {
+public final class Promise03PutTest extends Cases {
     private static final String TWENTY_THREE_ONES = "1,1,1,1,1,1,1,1,1,1,1,1,1,1,1,1,1,1,1,1,1,1,1";
 
     public static void main(String[] args) {
@@ -13,48 +13,34 @@ public final class Promise03PutTest {
         Trial.end();
     }
 
-    private static void stands(String text, int size, String written) {
-        Trial t = new Trial("put");
-        t.put(text, 0, size);
-        t.sizes(0, 1);
-        t.prints(-1, 0, written);
-    }
-
-    private static void fault(String text, int place) {
-        Trial t = new Trial("fault");
-        t.put(text, 0, -100 - place);
-        t.sizes(0, 0, 0, 0, 0, 0, 0);
-        t.due("print", t.x.print(-1, 0), PagedValues.BAD);
-    }
-
     private static void values() {
-        stands("null", 1, "null");
-        stands("true", 1, "true");
-        stands("false", 1, "false");
-        stands("0", 1, "0");
-        stands("-0", 1, "0");
-        stands("7", 1, "7");
-        stands("-10", 1, "-10");
-        stands("999999", 1, "999999");
-        stands("-999999", 1, "-999999");
-        stands("\"\"", 1, "\"\"");
-        stands("\"abcdefghij\"", 1, "\"abcdefghij\"");
-        stands("\"\\\\\\\"\"", 1, "\"\\\\\\\"\"");
-        stands("\" ~\u007f\u0080\u00ff\"", 1, "\" ~\u007f\u0080\u00ff\"");
-        stands("[]", 1, "[]");
-        stands("{}", 1, "{}");
-        stands(" \t\n\r[ \t\n\r1 \t\n\r, \t\n\r2 \t\n\r] \t\n\r", 3, "[1,2]");
-        stands(" \t\n\r{ \t\n\r\"a\" \t\n\r: \t\n\r2 \t\n\r, \t\n\r\"b\" \t\n\r:1} \t\n\r", 3, "{\"a\":2,\"b\":1}");
-        stands("{\"\":0,\" \":1}", 3, "{\"\":0,\" \":1}");
-        stands("{\"z\":0,\"a\":{\"z\":[]}}", 4, "{\"z\":0,\"a\":{\"z\":[]}}");
-        stands("{\"\\\"\":1,\"\\\\\":2}", 3, "{\"\\\"\":1,\"\\\\\":2}");
+        taken("null", 1, "null");
+        taken("true", 1, "true");
+        taken("false", 1, "false");
+        taken("0", 1, "0");
+        taken("-0", 1, "0");
+        taken("7", 1, "7");
+        taken("-10", 1, "-10");
+        taken("999999", 1, "999999");
+        taken("-999999", 1, "-999999");
+        taken("\"\"", 1, "\"\"");
+        taken("\"abcdefghij\"", 1, "\"abcdefghij\"");
+        taken("\"\\\\\\\"\"", 1, "\"\\\\\\\"\"");
+        taken("\" ~\u007f\u0080\u00ff\"", 1, "\" ~\u007f\u0080\u00ff\"");
+        taken("[]", 1, "[]");
+        taken("{}", 1, "{}");
+        taken(" \t\n\r[ \t\n\r1 \t\n\r, \t\n\r2 \t\n\r] \t\n\r", 3, "[1,2]");
+        taken(" \t\n\r{ \t\n\r\"a\" \t\n\r: \t\n\r2 \t\n\r, \t\n\r\"b\" \t\n\r:1} \t\n\r", 3, "{\"a\":2,\"b\":1}");
+        taken("{\"\":0,\" \":1}", 3, "{\"\":0,\" \":1}");
+        taken("{\"z\":0,\"a\":{\"z\":[]}}", 4, "{\"z\":0,\"a\":{\"z\":[]}}");
+        taken("{\"\\\"\":1,\"\\\\\":2}", 3, "{\"\\\"\":1,\"\\\\\":2}");
     }
 
     private static void sizesOfValues() {
-        stands("[[[[]]]]", 4, "[[[[]]]]");
-        stands("{\"a\":{\"a\":{\"a\":{\"a\":1}}}}", 5, "{\"a\":{\"a\":{\"a\":{\"a\":1}}}}");
-        stands("[[[[1]],[]],{\"a\":[]}]", 8, "[[[[1]],[]],{\"a\":[]}]");
-        stands("[" + TWENTY_THREE_ONES + "]", 24, "[" + TWENTY_THREE_ONES + "]");
+        taken("[[[[]]]]", 4, "[[[[]]]]");
+        taken("{\"a\":{\"a\":{\"a\":{\"a\":1}}}}", 5, "{\"a\":{\"a\":{\"a\":{\"a\":1}}}}");
+        taken("[[[[1]],[]],{\"a\":[]}]", 8, "[[[[1]],[]],{\"a\":[]}]");
+        taken("[" + TWENTY_THREE_ONES + "]", 24, "[" + TWENTY_THREE_ONES + "]");
     }
 
     private static void faultsOfScalars() {
@@ -106,7 +92,7 @@ public final class Promise03PutTest {
         fault("\"abcdefghij\n\"", 11);
         fault("\"abcdefghij", 11);
         fault("\"abcdefgh\\\\\\\\k\"", 13);
-        stands("\"abcdefgh\\\\\\\\\"", 1, "\"abcdefgh\\\\\\\\\"");
+        taken("\"abcdefgh\\\\\\\\\"", 1, "\"abcdefgh\\\\\\\\\"");
     }
 
     private static void faultsOfParts() {
@@ -143,7 +129,7 @@ public final class Promise03PutTest {
         fault("{\"\\\\\":1,\"\\\\\":2}", 8);
         fault("{\"\":1,\"\":2}", 6);
         fault("{\"abcdefghijk\":1}", 12);
-        stands("{\"a\":{\"a\":1},\"b\":{\"a\":2}}", 5, "{\"a\":{\"a\":1},\"b\":{\"a\":2}}");
+        taken("{\"a\":{\"a\":1},\"b\":{\"a\":2}}", 5, "{\"a\":{\"a\":1},\"b\":{\"a\":2}}");
     }
 
     private static void limits() {
@@ -153,12 +139,12 @@ public final class Promise03PutTest {
         fault("[" + TWENTY_THREE_ONES + ",}", 47);
         fault("[" + TWENTY_THREE_ONES.substring(2) + ",{\"a\" : 1}]", 52);
         fault("[" + TWENTY_THREE_ONES.substring(2) + ",[\"a\"]]", 46);
-        stands("[" + TWENTY_THREE_ONES.substring(2) + ",[ ]]", 24, "[" + TWENTY_THREE_ONES.substring(2) + ",[]]");
+        taken("[" + TWENTY_THREE_ONES.substring(2) + ",[ ]]", 24, "[" + TWENTY_THREE_ONES.substring(2) + ",[]]");
         fault("[[[[[]]]]]", 4);
         fault("[[[[{}]]]]", 4);
         fault("[[[{\"a\":[", 8);
         fault("{\"a\":{\"a\":{\"a\":{\"a\":{", 20);
-        stands("[[[[1,\"[\"]]],[[[]]]]", 9, "[[[[1,\"[\"]]],[[[]]]]");
+        taken("[[[[1,\"[\"]]],[[[]]]]", 9, "[[[[1,\"[\"]]],[[[]]]]");
     }
 
     private static void orderOfAnswers() {

@@ -1,5 +1,5 @@
 /** Promise 4: lists of operations change a document, whole or not at all. */
-public final class Promise04PatchTest {
+public final class Promise04PatchTest extends Cases {
     public static void main(String[] args) {
         adds();
         removes();
@@ -15,57 +15,21 @@ public final class Promise04PatchTest {
         Trial.end();
     }
 
-    private static void changes(String document, String operations, int size, String written) {
-        Trial t = new Trial("patch of " + document);
-        t.type(document).x.put(0);
-        t.patch("[" + operations + "]", 0, size);
-        t.sizes(0, 1, 0, 6, 0, 2, 0);
-        t.prints(-1, 0, written);
-    }
-
-    private static void refused(String document, String text, int answer) {
-        Trial t = new Trial("patch of " + document);
-        t.type(document).x.put(0);
-        t.patch(text, 0, answer);
-        t.sizes(0, 1, 0, 3, 1, 1, 0);
-        t.prints(-1, 0, document);
-    }
-
-    private static void fails(String document, String operation) {
-        refused(document, "[" + operation + "]", -10);
-    }
-
-    private static String add(String path, String value) {
-        return "{\"op\":\"add\",\"path\":\"" + path + "\",\"value\":" + value + "}";
-    }
-
-    private static String replace(String path, String value) {
-        return "{\"op\":\"replace\",\"path\":\"" + path + "\",\"value\":" + value + "}";
-    }
-
-    private static String remove(String path) {
-        return "{\"op\":\"remove\",\"path\":\"" + path + "\"}";
-    }
-
-    private static String copy(String from, String path) {
-        return "{\"op\":\"copy\",\"from\":\"" + from + "\",\"path\":\"" + path + "\"}";
-    }
-
     private static void adds() {
-        changes("[1]", add("", "{\"a\":2}"), 2, "{\"a\":2}");
-        changes("{}", add("/a", "1"), 2, "{\"a\":1}");
-        changes("{\"a\":1,\"b\":2}", add("/a", "[]"), 3, "{\"a\":[],\"b\":2}");
-        changes("{\"a\":1,\"b\":2}", add("/c", "3"), 4, "{\"a\":1,\"b\":2,\"c\":3}");
-        changes("{\"a\":1}", add("/", "3"), 3, "{\"a\":1,\"\":3}");
-        changes("{\"a\":1}", add("/-", "3"), 3, "{\"a\":1,\"-\":3}");
-        changes("{\"a\":1}", add("/01", "3"), 3, "{\"a\":1,\"01\":3}");
-        changes("[1,2]", add("/0", "3"), 4, "[3,1,2]");
-        changes("[1,2]", add("/1", "3"), 4, "[1,3,2]");
-        changes("[1,2]", add("/2", "3"), 4, "[1,2,3]");
-        changes("[1,2]", add("/-", "3"), 4, "[1,2,3]");
-        changes("[]", add("/-", "3"), 2, "[3]");
-        changes("[]", add("/0", "3"), 2, "[3]");
-        changes("[[],{\"a\":[]}]", add("/1/a/-", "[null]"), 6, "[[],{\"a\":[[null]]}]");
+        changed("[1]", add("", "{\"a\":2}"), 2, "{\"a\":2}");
+        changed("{}", add("/a", "1"), 2, "{\"a\":1}");
+        changed("{\"a\":1,\"b\":2}", add("/a", "[]"), 3, "{\"a\":[],\"b\":2}");
+        changed("{\"a\":1,\"b\":2}", add("/c", "3"), 4, "{\"a\":1,\"b\":2,\"c\":3}");
+        changed("{\"a\":1}", add("/", "3"), 3, "{\"a\":1,\"\":3}");
+        changed("{\"a\":1}", add("/-", "3"), 3, "{\"a\":1,\"-\":3}");
+        changed("{\"a\":1}", add("/01", "3"), 3, "{\"a\":1,\"01\":3}");
+        changed("[1,2]", add("/0", "3"), 4, "[3,1,2]");
+        changed("[1,2]", add("/1", "3"), 4, "[1,3,2]");
+        changed("[1,2]", add("/2", "3"), 4, "[1,2,3]");
+        changed("[1,2]", add("/-", "3"), 4, "[1,2,3]");
+        changed("[]", add("/-", "3"), 2, "[3]");
+        changed("[]", add("/0", "3"), 2, "[3]");
+        changed("[[],{\"a\":[]}]", add("/1/a/-", "[null]"), 6, "[[],{\"a\":[[null]]}]");
         fails("[1,2]", add("/3", "3"));
         fails("[1,2]", add("/01", "3"));
         fails("[1,2]", add("/00", "3"));
@@ -85,12 +49,12 @@ public final class Promise04PatchTest {
     }
 
     private static void removes() {
-        changes("[1,2,3]", remove("/0"), 3, "[2,3]");
-        changes("[1,2,3]", remove("/1"), 3, "[1,3]");
-        changes("[1,2,3]", remove("/2"), 3, "[1,2]");
-        changes("{\"a\":1}", remove("/a"), 1, "{}");
-        changes("{\"a\":1,\"b\":2,\"c\":3}", remove("/b"), 3, "{\"a\":1,\"c\":3}");
-        changes("{\"a\":{\"b\":[1,[]]}}", remove("/a/b/1"), 4, "{\"a\":{\"b\":[1]}}");
+        changed("[1,2,3]", remove("/0"), 3, "[2,3]");
+        changed("[1,2,3]", remove("/1"), 3, "[1,3]");
+        changed("[1,2,3]", remove("/2"), 3, "[1,2]");
+        changed("{\"a\":1}", remove("/a"), 1, "{}");
+        changed("{\"a\":1,\"b\":2,\"c\":3}", remove("/b"), 3, "{\"a\":1,\"c\":3}");
+        changed("{\"a\":{\"b\":[1,[]]}}", remove("/a/b/1"), 4, "{\"a\":{\"b\":[1]}}");
         fails("[1,2,3]", remove(""));
         fails("[1,2,3]", remove("/3"));
         fails("[1,2,3]", remove("/-"));
@@ -102,11 +66,11 @@ public final class Promise04PatchTest {
     }
 
     private static void replaces() {
-        changes("[1,2]", replace("", "null"), 1, "null");
-        changes("[1,2]", replace("/0", "[3]"), 4, "[[3],2]");
-        changes("[1,2]", replace("/1", "3"), 3, "[1,3]");
-        changes("{\"a\":1,\"b\":2}", replace("/a", "3"), 3, "{\"a\":3,\"b\":2}");
-        changes("{\"a\":{\"b\":1}}", replace("/a/b", "{}"), 3, "{\"a\":{\"b\":{}}}");
+        changed("[1,2]", replace("", "null"), 1, "null");
+        changed("[1,2]", replace("/0", "[3]"), 4, "[[3],2]");
+        changed("[1,2]", replace("/1", "3"), 3, "[1,3]");
+        changed("{\"a\":1,\"b\":2}", replace("/a", "3"), 3, "{\"a\":3,\"b\":2}");
+        changed("{\"a\":{\"b\":1}}", replace("/a/b", "{}"), 3, "{\"a\":{\"b\":{}}}");
         fails("[1,2]", replace("/2", "3"));
         fails("[1,2]", replace("/-", "3"));
         fails("{\"a\":1}", replace("/b", "3"));
@@ -114,17 +78,17 @@ public final class Promise04PatchTest {
     }
 
     private static void copies() {
-        changes("{\"a\":[1]}", copy("/a", "/b"), 5, "{\"a\":[1],\"b\":[1]}");
-        changes("{\"a\":[1],\"b\":2}", copy("/a", "/b"), 5, "{\"a\":[1],\"b\":[1]}");
-        changes("{\"a\":[1]}", copy("/a", ""), 2, "[1]");
-        changes("{\"a\":[1]}", copy("", ""), 3, "{\"a\":[1]}");
-        changes("{\"a\":[1]}", copy("", "/a"), 4, "{\"a\":{\"a\":[1]}}");
-        changes("{\"a\":[1]}", copy("", "/a/0"), 6, "{\"a\":[{\"a\":[1]},1]}");
-        changes("{\"a\":[1]}", copy("/a", "/a"), 3, "{\"a\":[1]}");
-        changes("[1,2]", copy("/1", "/0"), 4, "[2,1,2]");
-        changes("[1,2]", copy("/0", "/-"), 4, "[1,2,1]");
-        changes("[[],2]", copy("/0", "/-") + "," + add("/0/0", "5"), 5, "[[5],2,[]]");
-        changes("[[]]", add("/0/0", "5") + "," + copy("/0", "/1"), 5, "[[5],[5]]");
+        changed("{\"a\":[1]}", copy("/a", "/b"), 5, "{\"a\":[1],\"b\":[1]}");
+        changed("{\"a\":[1],\"b\":2}", copy("/a", "/b"), 5, "{\"a\":[1],\"b\":[1]}");
+        changed("{\"a\":[1]}", copy("/a", ""), 2, "[1]");
+        changed("{\"a\":[1]}", copy("", ""), 3, "{\"a\":[1]}");
+        changed("{\"a\":[1]}", copy("", "/a"), 4, "{\"a\":{\"a\":[1]}}");
+        changed("{\"a\":[1]}", copy("", "/a/0"), 6, "{\"a\":[{\"a\":[1]},1]}");
+        changed("{\"a\":[1]}", copy("/a", "/a"), 3, "{\"a\":[1]}");
+        changed("[1,2]", copy("/1", "/0"), 4, "[2,1,2]");
+        changed("[1,2]", copy("/0", "/-"), 4, "[1,2,1]");
+        changed("[[],2]", copy("/0", "/-") + "," + add("/0/0", "5"), 5, "[[5],2,[]]");
+        changed("[[]]", add("/0/0", "5") + "," + copy("/0", "/1"), 5, "[[5],[5]]");
         fails("[1,2]", copy("/2", "/0"));
         fails("[1,2]", copy("/-", "/0"));
         fails("[1,2]", copy("/0", "/3"));
@@ -134,14 +98,14 @@ public final class Promise04PatchTest {
     }
 
     private static void pointers() {
-        changes("{\"~\":1,\"/\":2}", remove("/~0"), 2, "{\"/\":2}");
-        changes("{\"~\":1,\"/\":2}", remove("/~1"), 2, "{\"~\":1}");
-        changes("{\"~1\":1,\"/\":2}", remove("/~01"), 2, "{\"/\":2}");
-        changes("{\"a\":1}", add("/~0~1~1~0", "2"), 3, "{\"a\":1,\"~//~\":2}");
-        changes("{\"\":{\"\":1}}", remove("//"), 2, "{\"\":{}}");
-        changes("{\"\\\"\":1}", remove("/\\\""), 1, "{}");
-        changes("{\"0\":[7,8]}", remove("/0/0"), 3, "{\"0\":[8]}");
-        changes("[0,1,2,3,4,5,6,7,8,9,10,11]", remove("/10"), 12, "[0,1,2,3,4,5,6,7,8,9,11]");
+        changed("{\"~\":1,\"/\":2}", remove("/~0"), 2, "{\"/\":2}");
+        changed("{\"~\":1,\"/\":2}", remove("/~1"), 2, "{\"~\":1}");
+        changed("{\"~1\":1,\"/\":2}", remove("/~01"), 2, "{\"/\":2}");
+        changed("{\"a\":1}", add("/~0~1~1~0", "2"), 3, "{\"a\":1,\"~//~\":2}");
+        changed("{\"\":{\"\":1}}", remove("//"), 2, "{\"\":{}}");
+        changed("{\"\\\"\":1}", remove("/\\\""), 1, "{}");
+        changed("{\"0\":[7,8]}", remove("/0/0"), 3, "{\"0\":[8]}");
+        changed("[0,1,2,3,4,5,6,7,8,9,10,11]", remove("/10"), 12, "[0,1,2,3,4,5,6,7,8,9,11]");
         fails("{\"a\":1,\"~\":2}", remove("a"));
         fails("{\"a\":1,\"~\":2}", remove("/~"));
         fails("{\"a\":1,\"~\":2}", remove("/~2"));
@@ -152,10 +116,10 @@ public final class Promise04PatchTest {
     }
 
     private static void lists() {
-        changes("[1]", "", 2, "[1]");
-        changes("[1]", "{\"x\":[],\"path\":\"/0\",\"value\":0,\"op\":\"remove\",\"from\":1}", 1, "[]");
-        changes("[1]", "{\"value\":0,\"path\":\"/0\",\"op\":\"add\",\"from\":\"x\"}", 3, "[0,1]");
-        changes("[1]", add("/0", "2") + "," + remove("/1"), 2, "[2]");
+        changed("[1]", "", 2, "[1]");
+        changed("[1]", "{\"x\":[],\"path\":\"/0\",\"value\":0,\"op\":\"remove\",\"from\":1}", 1, "[]");
+        changed("[1]", "{\"value\":0,\"path\":\"/0\",\"op\":\"add\",\"from\":\"x\"}", 3, "[0,1]");
+        changed("[1]", add("/0", "2") + "," + remove("/1"), 2, "[2]");
         refused("[1]", "[" + add("/0", "2") + "," + remove("/2") + "]", -11);
         refused("[1]", "[" + remove("/0") + "," + remove("/0") + "]", -11);
         Trial t = new Trial("third operation");
@@ -177,7 +141,7 @@ public final class Promise04PatchTest {
         for (String text : texts) {
             refused("[1]", text, PagedValues.MALFORMED);
         }
-        changes("[1]", "{\"op\":\"add\",\"path\":\"/0\",\"value\":null}", 3, "[null,1]");
+        changed("[1]", "{\"op\":\"add\",\"path\":\"/0\",\"value\":null}", 3, "[null,1]");
     }
 
     private static void tooBig() {
@@ -188,19 +152,19 @@ public final class Promise04PatchTest {
         refused(most, "[" + remove("/99") + "," + add("/0", "1") + "]", -10);
         refused(most, "[" + replace("/0", "[1]") + "]", PagedValues.TOO_BIG);
         refused(most, "[" + copy("", "/0") + "]", PagedValues.TOO_BIG);
-        changes(most, replace("/22", "[]"), 24, most.substring(0, 45) + "[]]");
-        changes(most, remove("/0") + "," + add("/0", "1"), 24, most);
+        changed(most, replace("/22", "[]"), 24, most.substring(0, 45) + "[]]");
+        changed(most, remove("/0") + "," + add("/0", "1"), 24, most);
         refused("[1,1,1,1,1,1,1,1,1,1,1]", "[" + copy("", "/0") + "," + add("/-", "1") + "]", PagedValues.TOO_BIG);
     }
 
     private static void tooBigByDepth() {
         refused("[[[[]]]]", "[" + add("/0/0/0/0", "[]") + "]", PagedValues.TOO_BIG);
         refused("[[[[]]]]", "[" + add("/0/0/0/0", "{}") + "]", PagedValues.TOO_BIG);
-        changes("[[[[]]]]", add("/0/0/0/0", "1"), 5, "[[[[1]]]]");
+        changed("[[[[]]]]", add("/0/0/0/0", "1"), 5, "[[[[1]]]]");
         refused("[[[[1]]]]", "[" + copy("", "/0/0/0/0") + "]", PagedValues.TOO_BIG);
         refused("[[[[1]]]]", "[" + copy("/0/0/0", "/0/0/0/0") + "]", PagedValues.TOO_BIG);
         refused("[[[1]]]", "[" + copy("", "/0/0/-") + "]", PagedValues.TOO_BIG);
-        changes("[[1]]", copy("", "/0/-"), 6, "[[1,[[1]]]]");
+        changed("[[1]]", copy("", "/0/-"), 6, "[[1,[[1]]]]");
         refused("{\"a\":{\"a\":{\"a\":{}}}}", "[" + copy("", "/a") + "]", PagedValues.TOO_BIG);
     }
 

@@ -1,5 +1,5 @@
 /** Promise 6: the form of queries and what they select. */
-public final class Promise06QueryTest {
+public final class Promise06QueryTest extends Cases {
     private static final String DOCUMENT = "{\"a\":[1,{\"b\":-7}],\"c\":\"q\",\"b\":[[2]]}";
 
     public static void main(String[] args) {
@@ -16,144 +16,123 @@ public final class Promise06QueryTest {
         Trial.end();
     }
 
-    private static void finds(String document, String query, String... results) {
-        Trial t = new Trial("query of " + document);
-        t.type(document).x.put(0);
-        t.query(query, -1, 0, results.length);
-        t.sizes(0, 1, 0, 3, 1, 1, 0);
-        String[] want = new String[results.length];
-        for (int i = 0; i < want.length; i++) {
-            want[i] = "0:" + results[i];
-        }
-        t.results(want);
-    }
-
-    private static void fault(String query, int place) {
-        Trial t = new Trial("fault");
-        t.put("[1]", 0, 2);
-        t.query("$", -1, 0, 1);
-        t.query(query, -1, 0, -100 - place);
-        t.due("size(0)", t.x.size(0), 0);
-        t.results();
-    }
-
     private static void selects() {
-        finds(DOCUMENT, "$", DOCUMENT);
-        finds(DOCUMENT, "$.a", "[1,{\"b\":-7}]");
-        finds(DOCUMENT, "$['a']", "[1,{\"b\":-7}]");
-        finds(DOCUMENT, "$.a.b");
-        finds(DOCUMENT, "$.x");
-        finds(DOCUMENT, "$.a[1].b", "-7");
-        finds(DOCUMENT, "$.*", "[1,{\"b\":-7}]", "\"q\"", "[[2]]");
-        finds(DOCUMENT, "$[*]", "[1,{\"b\":-7}]", "\"q\"", "[[2]]");
-        finds(DOCUMENT, "$.*.*", "1", "{\"b\":-7}", "[2]");
-        finds(DOCUMENT, "$['c','a','c']", "\"q\"", "[1,{\"b\":-7}]", "\"q\"");
-        finds(DOCUMENT, "$[0]");
-        finds(DOCUMENT, "$.c[0]");
-        finds(DOCUMENT, "$.c.*");
-        finds(DOCUMENT, "$.*[0,-1]", "1", "{\"b\":-7}", "[2]", "[2]");
-        finds("[10,11,12]", "$[0,1,2,3,999]", "10", "11", "12");
-        finds("[10,11,12]", "$[-1,-2,-3,-4,-999]", "12", "11", "10");
-        finds("[10,11,12]", "$[0,*,-3]", "10", "10", "11", "12", "10");
-        finds("[10,11,12]", "$['0']");
-        finds("[]", "$[0,-1,*]");
-        finds("5", "$.*");
-        finds("\"abc\"", "$[0]");
-        finds("{\"\":1,\" \":2}", "$['',' ']", "1", "2");
-        finds("{\"a_Z09\":1,\"_\":2}", "$.a_Z09", "1");
-        finds("{\"a_Z09\":1,\"_\":2}", "$._", "2");
-        finds("{\"abcdefghij\":1}", "$.abcdefghij", "1");
-        finds("{\"abcdefghij\":1}", "$['abcdefghij']", "1");
-        finds("{\"\\\"]\u00ff\":1}", "$['\"]\u00ff']", "1");
-        finds("{\"a\":1,\"A\":2}", "$.A", "2");
-        finds("{\"azAZ_09\":1,\"z\":2,\"Z\":3}", "$.azAZ_09", "1");
-        finds("{\"azAZ_09\":1,\"z\":2,\"Z\":3}", "$.z", "2");
-        finds("{\"azAZ_09\":1,\"z\":2,\"Z\":3}", "$.Z", "3");
+        found(DOCUMENT, "$", DOCUMENT);
+        found(DOCUMENT, "$.a", "[1,{\"b\":-7}]");
+        found(DOCUMENT, "$['a']", "[1,{\"b\":-7}]");
+        found(DOCUMENT, "$.a.b");
+        found(DOCUMENT, "$.x");
+        found(DOCUMENT, "$.a[1].b", "-7");
+        found(DOCUMENT, "$.*", "[1,{\"b\":-7}]", "\"q\"", "[[2]]");
+        found(DOCUMENT, "$[*]", "[1,{\"b\":-7}]", "\"q\"", "[[2]]");
+        found(DOCUMENT, "$.*.*", "1", "{\"b\":-7}", "[2]");
+        found(DOCUMENT, "$['c','a','c']", "\"q\"", "[1,{\"b\":-7}]", "\"q\"");
+        found(DOCUMENT, "$[0]");
+        found(DOCUMENT, "$.c[0]");
+        found(DOCUMENT, "$.c.*");
+        found(DOCUMENT, "$.*[0,-1]", "1", "{\"b\":-7}", "[2]", "[2]");
+        found("[10,11,12]", "$[0,1,2,3,999]", "10", "11", "12");
+        found("[10,11,12]", "$[-1,-2,-3,-4,-999]", "12", "11", "10");
+        found("[10,11,12]", "$[0,*,-3]", "10", "10", "11", "12", "10");
+        found("[10,11,12]", "$['0']");
+        found("[]", "$[0,-1,*]");
+        found("5", "$.*");
+        found("\"abc\"", "$[0]");
+        found("{\"\":1,\" \":2}", "$['',' ']", "1", "2");
+        found("{\"a_Z09\":1,\"_\":2}", "$.a_Z09", "1");
+        found("{\"a_Z09\":1,\"_\":2}", "$._", "2");
+        found("{\"abcdefghij\":1}", "$.abcdefghij", "1");
+        found("{\"abcdefghij\":1}", "$['abcdefghij']", "1");
+        found("{\"\\\"]\u00ff\":1}", "$['\"]\u00ff']", "1");
+        found("{\"a\":1,\"A\":2}", "$.A", "2");
+        found("{\"azAZ_09\":1,\"z\":2,\"Z\":3}", "$.azAZ_09", "1");
+        found("{\"azAZ_09\":1,\"z\":2,\"Z\":3}", "$.z", "2");
+        found("{\"azAZ_09\":1,\"z\":2,\"Z\":3}", "$.Z", "3");
     }
 
     private static void goesDeep() {
-        finds(DOCUMENT, "$..b", "[[2]]", "-7");
-        finds(DOCUMENT, "$..*", "[1,{\"b\":-7}]", "\"q\"", "[[2]]", "1", "{\"b\":-7}", "-7", "[2]", "2");
-        finds(DOCUMENT, "$..[0]", "1", "[2]", "2");
-        finds(DOCUMENT, "$..['b',0]", "[[2]]", "1", "-7", "[2]", "2");
-        finds(DOCUMENT, "$.b..[*]", "[2]", "2");
-        finds(DOCUMENT, "$..*..b", "-7", "-7");
-        finds("[[[[1]]]]", "$..[0]", "[[[1]]]", "[[1]]", "[1]", "1");
-        finds("[[[[1]]]]", "$..*..*", "[[1]]", "[1]", "1", "[1]", "1", "1");
-        finds("{\"a\":{\"a\":{\"a\":1}}}", "$..a", "{\"a\":{\"a\":1}}", "{\"a\":1}", "1");
-        finds("{\"a\":{\"a\":{\"a\":1}}}", "$..a.a", "{\"a\":1}", "1");
-        finds("[{\"a\":1},[{\"a\":2}],{\"a\":3}]", "$..a", "1", "2", "3");
-        finds("[[1,2],[3]]", "$..[0,1]", "[1,2]", "[3]", "1", "2", "3");
-        finds("1", "$..*");
+        found(DOCUMENT, "$..b", "[[2]]", "-7");
+        found(DOCUMENT, "$..*", "[1,{\"b\":-7}]", "\"q\"", "[[2]]", "1", "{\"b\":-7}", "-7", "[2]", "2");
+        found(DOCUMENT, "$..[0]", "1", "[2]", "2");
+        found(DOCUMENT, "$..['b',0]", "[[2]]", "1", "-7", "[2]", "2");
+        found(DOCUMENT, "$.b..[*]", "[2]", "2");
+        found(DOCUMENT, "$..*..b", "-7", "-7");
+        found("[[[[1]]]]", "$..[0]", "[[[1]]]", "[[1]]", "[1]", "1");
+        found("[[[[1]]]]", "$..*..*", "[[1]]", "[1]", "1", "[1]", "1", "1");
+        found("{\"a\":{\"a\":{\"a\":1}}}", "$..a", "{\"a\":{\"a\":1}}", "{\"a\":1}", "1");
+        found("{\"a\":{\"a\":{\"a\":1}}}", "$..a.a", "{\"a\":1}", "1");
+        found("[{\"a\":1},[{\"a\":2}],{\"a\":3}]", "$..a", "1", "2", "3");
+        found("[[1,2],[3]]", "$..[0,1]", "[1,2]", "[3]", "1", "2", "3");
+        found("1", "$..*");
     }
 
     private static void faults() {
-        fault("", 0);
-        fault("a", 0);
-        fault(" $", 0);
-        fault("$ ", 1);
-        fault("$$", 1);
-        fault("$a", 1);
-        fault("$*", 1);
-        fault("$.", 2);
-        fault("$..", 3);
-        fault("$...a", 3);
-        fault("$. a", 2);
-        fault("$.1", 2);
-        fault("$.-", 2);
-        fault("$.[0]", 2);
-        fault("$.'a'", 2);
-        fault("$.a*", 3);
-        fault("$.a b", 3);
-        fault("$.\u00e4", 2);
-        fault("$.a\u00e4", 3);
-        fault("$..1", 3);
-        fault("$.**", 3);
-        fault("$.abcdefghijk", 12);
-        fault("$..abcdefghij_", 13);
-        fault("$[", 2);
-        fault("$[]", 2);
-        fault("$..[]", 4);
-        fault("$[,", 2);
-        fault("$[a]", 2);
-        fault("$[ 0]", 2);
-        fault("$[0 ]", 3);
-        fault("$[0", 3);
-        fault("$[0,", 4);
-        fault("$[0,]", 4);
-        fault("$[0]]", 4);
-        fault("$[00]", 3);
-        fault("$[01]", 3);
-        fault("$[-]", 3);
-        fault("$[-0]", 3);
-        fault("$[-01]", 3);
-        fault("$[--1]", 3);
-        fault("$[-", 3);
-        fault("$[+1]", 2);
-        fault("$[1000]", 5);
-        fault("$[-1000]", 6);
-        fault("$[1:2]", 3);
-        fault("$[\"a\"]", 2);
-        fault("$['", 3);
-        fault("$['a", 4);
-        fault("$['a]", 5);
-        fault("$['a'", 5);
-        fault("$['a''b']", 5);
-        fault("$['\\'']", 3);
-        fault("$['a\t']", 4);
-        fault("$['a\u0100']", 4);
-        fault("$['abcdefghijk']", 13);
-        fault("$['abcdefghij", 13);
-        fault("$[**]", 3);
+        queryFault("", 0);
+        queryFault("a", 0);
+        queryFault(" $", 0);
+        queryFault("$ ", 1);
+        queryFault("$$", 1);
+        queryFault("$a", 1);
+        queryFault("$*", 1);
+        queryFault("$.", 2);
+        queryFault("$..", 3);
+        queryFault("$...a", 3);
+        queryFault("$. a", 2);
+        queryFault("$.1", 2);
+        queryFault("$.-", 2);
+        queryFault("$.[0]", 2);
+        queryFault("$.'a'", 2);
+        queryFault("$.a*", 3);
+        queryFault("$.a b", 3);
+        queryFault("$.\u00e4", 2);
+        queryFault("$.a\u00e4", 3);
+        queryFault("$..1", 3);
+        queryFault("$.**", 3);
+        queryFault("$.abcdefghijk", 12);
+        queryFault("$..abcdefghij_", 13);
+        queryFault("$[", 2);
+        queryFault("$[]", 2);
+        queryFault("$..[]", 4);
+        queryFault("$[,", 2);
+        queryFault("$[a]", 2);
+        queryFault("$[ 0]", 2);
+        queryFault("$[0 ]", 3);
+        queryFault("$[0", 3);
+        queryFault("$[0,", 4);
+        queryFault("$[0,]", 4);
+        queryFault("$[0]]", 4);
+        queryFault("$[00]", 3);
+        queryFault("$[01]", 3);
+        queryFault("$[-]", 3);
+        queryFault("$[-0]", 3);
+        queryFault("$[-01]", 3);
+        queryFault("$[--1]", 3);
+        queryFault("$[-", 3);
+        queryFault("$[+1]", 2);
+        queryFault("$[1000]", 5);
+        queryFault("$[-1000]", 6);
+        queryFault("$[1:2]", 3);
+        queryFault("$[\"a\"]", 2);
+        queryFault("$['", 3);
+        queryFault("$['a", 4);
+        queryFault("$['a]", 5);
+        queryFault("$['a'", 5);
+        queryFault("$['a''b']", 5);
+        queryFault("$['\\'']", 3);
+        queryFault("$['a\t']", 4);
+        queryFault("$['a\u0100']", 4);
+        queryFault("$['abcdefghijk']", 13);
+        queryFault("$['abcdefghij", 13);
+        queryFault("$[**]", 3);
     }
 
     /** The characters next to the letters and digits are none. */
     private static void faultsInNames() {
         for (char c : "@[`{^/:".toCharArray()) {
-            fault("$." + c, 2);
+            queryFault("$." + c, 2);
         }
         for (char c : "@`{^/:".toCharArray()) {
-            fault("$.a" + c, 3);
+            queryFault("$.a" + c, 3);
         }
     }
 
@@ -175,20 +154,20 @@ public final class Promise06QueryTest {
     }
 
     private static void selectorsAtMostEight() {
-        finds("[10]", "$[0,0,0,0,0,0,0,0]", "10", "10", "10", "10", "10", "10", "10", "10");
-        fault("$[0,0,0,0,0,0,0,0,0]", 18);
-        fault("$[0,0,0,0,0,0,0,0,", 18);
-        fault("$[0,0,0,0,0,0,0,0].a", 19);
-        fault("$[0,0,0,0,0,0,0,0]..*", 20);
-        fault("$[0,0,0,0,0,0,0,0].", 19);
-        fault("$[0,0,0,0,0,0,0,0]..", 20);
-        fault("$[0,0,0,0,0,0,0,0]...", 20);
-        fault("$[0,0,0,0,0,0,0,0][", 19);
-        fault("$[0,0,0,0,0,0,0,0][0", 19);
-        fault("$[0,0,0,0,0,0,0,0]..[*]", 21);
-        fault("$.a.b.*.d.e.f.g.h.i", 18);
-        fault("$.a.b..*.d..e.f[0].h['i']", 21);
-        finds("[10]", "$.a.b.*.d.e.f.g.h");
+        found("[10]", "$[0,0,0,0,0,0,0,0]", "10", "10", "10", "10", "10", "10", "10", "10");
+        queryFault("$[0,0,0,0,0,0,0,0,0]", 18);
+        queryFault("$[0,0,0,0,0,0,0,0,", 18);
+        queryFault("$[0,0,0,0,0,0,0,0].a", 19);
+        queryFault("$[0,0,0,0,0,0,0,0]..*", 20);
+        queryFault("$[0,0,0,0,0,0,0,0].", 19);
+        queryFault("$[0,0,0,0,0,0,0,0]..", 20);
+        queryFault("$[0,0,0,0,0,0,0,0]...", 20);
+        queryFault("$[0,0,0,0,0,0,0,0][", 19);
+        queryFault("$[0,0,0,0,0,0,0,0][0", 19);
+        queryFault("$[0,0,0,0,0,0,0,0]..[*]", 21);
+        queryFault("$.a.b.*.d.e.f.g.h.i", 18);
+        queryFault("$.a.b..*.d..e.f[0].h['i']", 21);
+        found("[10]", "$.a.b.*.d.e.f.g.h");
     }
 
     private static void documents() {

@@ -2,7 +2,7 @@
 final class Trial {
     private static int wrong = 0;
 
-    final PagedValues x = new PagedValues();
+    final Counted x = new Counted();
     private final String name;
 
     Trial(String name) {
@@ -50,6 +50,28 @@ final class Trial {
         due("query(" + r + ", " + id + ") of " + text, x.query(r, id), want);
     }
 
+    /** Calls in short: p4 puts 1 as document 4, r4 removes it, o opens a reader, c0 closes reader 0; all must be taken. */
+    Trial steps(String calls) {
+        for (String call : calls.split(" ")) {
+            int n = call.length() == 1 ? 0 : call.charAt(1) - '0';
+            switch (call.charAt(0)) {
+                case 'p':
+                    put("1", n, 1);
+                    break;
+                case 'r':
+                    due("remove(" + n + ") is taken", x.remove(n) >= 0, true);
+                    break;
+                case 'o':
+                    due("open() is taken", x.open() >= 0, true);
+                    break;
+                default:
+                    due("close(" + n + ")", x.close(n), true);
+                    break;
+            }
+        }
+        return this;
+    }
+
     /** Six writes of this text as documents 0, 4 and 5 while three readers look, which leave one page free. */
     void fill(String text, int size) {
         put(text, 0, size);
@@ -83,22 +105,11 @@ final class Trial {
     }
 
     String written() {
-        StringBuilder all = new StringBuilder();
-        int c = x.output(0);
-        for (int p = 1; c != PagedValues.BAD; p++) {
-            all.append((char) c);
-            c = x.output(p);
-        }
-        return all.toString();
+        return x.written();
     }
 
-    /** The use of every page: a character 0, 1 or 2 for each. */
     void pages(String want) {
-        StringBuilder all = new StringBuilder();
-        for (int n = 0; n < 12; n++) {
-            all.append(x.page(n));
-        }
-        due("pages", all.toString(), want);
+        due("pages", x.pages(), want);
     }
 
     void sizes(int... want) {
