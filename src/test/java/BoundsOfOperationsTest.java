@@ -37,7 +37,8 @@ public final class BoundsOfOperationsTest extends Cases {
     }
 
     private static void noLists() {
-        for (String text : new String[] {"null", "true", "false", "0", "\"\"", "\"[]\"", "{}", remove("/0"), "{\"0\":" + remove("/0") + "}"}) {
+        String[] texts = {"null", "true", "false", "0", "\"\"", "\"[]\"", "{}", remove("/0"), "{\"0\":" + remove("/0") + "}"};
+        for (String text : texts) {
             malformed(text);
         }
     }
@@ -67,7 +68,9 @@ public final class BoundsOfOperationsTest extends Cases {
     }
 
     private static void otherOps() {
-        for (String op : new String[] {"", "a", "ad", "addd", "Add", "ADD", " add", "add ", "move", "test", "removed", "remov", "copyy", "cop", "replac", "replaces"}) {
+        String[] ops = {"", "a", "ad", "addd", "Add", "ADD", " add", "add ", "move", "test", "removed", "remov", "copyy", "cop",
+            "replac", "replaces"};
+        for (String op : ops) {
             malformed("[{\"op\":\"" + op + "\",\"path\":\"\",\"value\":1,\"from\":\"\"}]");
         }
     }

@@ -88,7 +88,8 @@ public final class BoundsOfPointersTest extends Cases {
     /** "a ~ with anything else, or nothing, behind it" */
     private static void otherTildes() {
         String document = "{\"~\":1,\"~2\":2,\"a\":3,\"a~\":4}";
-        for (String none : new String[] {"/~", "/a~", "/~2", "/~/", "/~~", "/~~0", "/~0~", "/a/~", "/~a", "/~-", "/~ ", "/~/0", "/~\u00ff"}) {
+        String[] strings = {"/~", "/a~", "/~2", "/~/", "/~~", "/~~0", "/~0~", "/a/~", "/~a", "/~-", "/~ ", "/~/0", "/~\u00ff"};
+        for (String none : strings) {
             none(document, none);
         }
     }
@@ -109,7 +110,8 @@ public final class BoundsOfPointersTest extends Cases {
 
     /** "(digits, no 0 in front of others)" */
     private static void tokensThatAreNoNumbers() {
-        for (String token : new String[] {"00", "01", "000", "010", "-", "-0", "-1", "+1", "1 ", " 1", "1a", "a", "0x1", "1.", "1e0", "", "/", ":"}) {
+        String[] tokens = {"00", "01", "000", "010", "-", "-0", "-1", "+1", "1 ", " 1", "1a", "a", "0x1", "1.", "1e0", "", "/", ":"};
+        for (String token : tokens) {
             nowhere(TEN, "/" + token);
         }
         for (String token : new String[] {"00", "01", "-1", "+1", "1a", "", "--", "-0", "1:", "1/"}) {

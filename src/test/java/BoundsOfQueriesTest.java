@@ -1,6 +1,6 @@
 /** What can and what can't stand where in the FORM OF A QUERY. */
 public final class BoundsOfQueriesTest extends Cases {
-    private static final String NAMES = "{\"abcdefghij\":1,\"abcdefghi\":2,\"_\":3,\"Z9\":4,\"a\":5,\"z\":6,\"A\":7,\"Z\":8,\"a_9Z\":9}";
+    private static final String NAMES = "{\"abcdefghij\":1,\"abcdefghi\":2,\"a_9Z\":9}";
 
     public static void main(String[] args) {
         theShortest();
@@ -65,7 +65,8 @@ public final class BoundsOfQueriesTest extends Cases {
         found("[5,6]", "$[0]", "5");
         found("[5,6]", "$[0,1]", "5", "6");
         found("[[5]]", "$[0][0]", "5");
-        for (String text : new String[] {"$[", "$[]", "$[,", "$[,0]", "$[a]", "$[.a]", "$[[0]]", "$[\"a\"]", "$[$]", "$[+1]", "$[)"}) {
+        String[] texts = {"$[", "$[]", "$[,", "$[,0]", "$[a]", "$[.a]", "$[[0]]", "$[\"a\"]", "$[$]", "$[+1]", "$[)"};
+        for (String text : texts) {
             queryFault(text, 2);
         }
         queryFault("$[0", 3);

@@ -73,7 +73,8 @@ public final class RefusedCallsTest extends Cases {
     }
 
     /** The text is refused so, and only it goes. */
-    private static void leavesAllButText(Consumer<Trial> state, String text, String name, ToIntFunction<Counted> call, int answer) {
+    private static void leavesAllButText(Consumer<Trial> state, String text, String name, ToIntFunction<Counted> call,
+            int answer) {
         Trial t = made("refused text", state);
         t.type(text);
         t.due(name + " of " + text, call.applyAsInt(t.x), answer);
