@@ -315,7 +315,7 @@ public final class PagedValues {
             }
         }
 
-        static int sizeOf(Value value, int around) {
+        private static int sizeOf(Value value, int around) {
             int sum = 1;
             if (around < DEEPEST_UNMEASURED) {
                 for (Value part = value.first; part != null; part = part.next) {
@@ -325,7 +325,7 @@ public final class PagedValues {
             return sum;
         }
 
-        static int depthOf(Value value, int around) {
+        private static int depthOf(Value value, int around) {
             if (value.kind != Kind.ARRAY && value.kind != Kind.OBJECT) {
                 return 0;
             }
@@ -339,7 +339,7 @@ public final class PagedValues {
         }
 
         /** The copy is no part of anything: it has neither a name nor a next part. */
-        static Value copyOf(Value value, int around) {
+        private static Value copyOf(Value value, int around) {
             Value copy = new Value(value.kind, value.number, value.characters);
             Value last = null;
             if (around < DEEPEST_UNMEASURED) {
@@ -357,7 +357,7 @@ public final class PagedValues {
             return copy;
         }
 
-        static void write(Value value, StringBuilder to, int around) {
+        private static void write(Value value, StringBuilder to, int around) {
             switch (value.kind) {
                 case NULL:
                     to.append("null");
@@ -581,6 +581,7 @@ public final class PagedValues {
             values = 0;
             text.begin();
             Value whole = value(text, 0);
+            text.skipBlanks();
             if (!text.atEnd()) {
                 text.fail();
             }
@@ -589,14 +590,6 @@ public final class PagedValues {
 
         private Value value(Text text, int around) {
             text.skipBlanks();
-            Value value = bareValue(text, around);
-            if (value != null) {
-                text.skipBlanks();
-            }
-            return value;
-        }
-
-        private Value bareValue(Text text, int around) {
             if (values >= MOST_VALUES) {
                 text.fail();
                 return null;
@@ -638,6 +631,7 @@ public final class PagedValues {
                     return null;
                 }
                 whole.append(part);
+                text.skipBlanks();
                 if (text.take(closing)) {
                     return whole;
                 }
